@@ -3,7 +3,8 @@
  *
  * <p>A run keeps its own stack of tasks, since the language rules leave no recursion. One bound sizes all arrays of a
  * run: at most 24 programs are made, each is part of at most one other, and so each is visited at most once outside of
- * calls and once within each of at most 60 calls. A task, a waiting result and a closure each need a visit of their own.
+ * calls and once within each of at most 60 calls. A task, a waiting result and a closure each need a visit of their
+ * own.
  */
 public final class ClosureCompiler {
     public static final int BAD_ARG = -1;

@@ -58,7 +58,7 @@ public final class LanguageTest {
     // Rule 1.
     private static void checkFace() {
         Class<?> type = ClosureCompiler.class;
-        check(Modifier.isPublic(type.getModifiers()) && Modifier.isFinal(type.getModifiers()), "class: not public final");
+        check(type.getModifiers() == (Modifier.PUBLIC | Modifier.FINAL), "class: not public final");
         check(type.getDeclaredClasses().length == 0, "class: has a nested class");
         Constructor<?>[] constructors = type.getDeclaredConstructors();
         check(constructors.length == 1 && constructors[0].getParameterCount() == 0
@@ -92,7 +92,8 @@ public final class LanguageTest {
             int modifiers = field.getModifiers();
             if (!Modifier.isPrivate(modifiers)) {
                 found.add(field.getName());
-                check(modifiers == (Modifier.PUBLIC | Modifier.STATIC | Modifier.FINAL), field.getName() + ": no constant");
+                check(modifiers == (Modifier.PUBLIC | Modifier.STATIC | Modifier.FINAL),
+                    field.getName() + ": no constant");
             }
             Class<?> type = field.getType();
             if (Modifier.isStatic(modifiers)) {
@@ -125,14 +126,16 @@ public final class LanguageTest {
     // Rule 4: every array is made in a field's initialiser.
     private static void checkArrays(String text) {
         Matcher all = Pattern.compile("\\bnew\\b").matcher(text);
-        Matcher good = Pattern.compile("(?m)^    private final (\\w+)\\[\\] \\w+ = new \\1\\[[A-Z0-9_]+\\];$").matcher(text);
+        Matcher good =
+            Pattern.compile("(?m)^    private final (\\w+)\\[\\] \\w+ = new \\1\\[[A-Z0-9_]+\\];$").matcher(text);
         check(all.results().count() == good.results().count(), "new: not in the initialiser of an array field");
     }
 
     private static Map<String, String> methodBodies(String text) {
         Map<String, String> bodies = new LinkedHashMap<>();
-        Matcher methods =
-            Pattern.compile("(?ms)^    (?:public|private) (?:static )?\\w+ (\\w+)\\([^)]*\\) \\{(.*?)^    \\}").matcher(text);
+        Pattern method =
+            Pattern.compile("(?ms)^    (?:public|private) (?:static )?\\w+ (\\w+)\\([^)]*\\) \\{(.*?)^    \\}");
+        Matcher methods = method.matcher(text);
         while (methods.find()) {
             bodies.put(methods.group(1), methods.group(2));
         }
@@ -141,16 +144,19 @@ public final class LanguageTest {
 
     // Rules 8 and 10.
     private static void checkMethods(Map<String, String> bodies) {
-        check(bodies.size() == ClosureCompiler.class.getDeclaredMethods().length, "methods: not all are seen in the text");
+        int methodCount = ClosureCompiler.class.getDeclaredMethods().length;
+        check(bodies.size() == methodCount, "methods: not all are seen in the text");
         Pattern call = Pattern.compile("\\b([a-z]\\w*)\\(");
         for (Map.Entry<String, String> method : bodies.entrySet()) {
             String body = method.getValue();
             check(body.lines().count() <= 60, method.getKey() + ": longer than sixty lines");
-            check(deepest(method.getKey(), bodies, call, 1) <= 6, method.getKey() + ": calls go too deep, or in a ring");
+            int depth = deepest(method.getKey(), bodies, call, 1);
+            check(depth <= 6, method.getKey() + ": calls go too deep, or in a ring");
             check(!body.contains("while"), method.getKey() + ": a loop without a counter");
             Matcher loops = Pattern.compile("for \\(([^;]*);([^;]*);([^{]*)\\{").matcher(body);
             while (loops.find()) {
-                check(loops.group(2).contains("<") && loops.group(3).contains("++"), method.getKey() + ": a loop without a counter");
+                boolean counted = loops.group(2).contains("<") && loops.group(3).contains("++");
+                check(counted, method.getKey() + ": a loop without a counter");
             }
             check(!callWithinCall(body, bodies.keySet()), method.getKey() + ": a call within a call's arguments");
         }

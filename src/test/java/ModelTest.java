@@ -183,7 +183,8 @@ public final class ModelTest {
     private static void due(int object, String calls, String call, int got, int want) {
         if (got != want) {
             wrong++;
-            System.out.println("object " + object + ": after " + calls + " " + call + " answered " + got + ", due is " + want);
+            String where = "object " + object + ": after " + calls + " ";
+            System.out.println(where + call + " answered " + got + ", due is " + want);
         }
     }
 

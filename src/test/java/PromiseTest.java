@@ -201,6 +201,12 @@ public final class PromiseTest {
         due("name after 24", x.name(3), FULL);
         due("name(-1) after 24", x.name(-1), BAD_ARG);
         stateIs("after name after 24", x, 1, 24);
+        x = made("1");
+        for (int i = 0; i < 22; i++) {
+            push(x, "function:aa");
+        }
+        due("name as the 24th", x.name(2), 2);
+        due("free of the 24th", x.free(), 4);
     }
 
     // Promise 4.
@@ -486,7 +492,8 @@ public final class PromiseTest {
         numberIs("7 b function:aa bind:b 0 apply", 7);
         numberIs("7 a function:bb bind:a 0 apply", 7);
         // Two closures of one function keep what each had around it.
-        numberIs("a b sub function:cb function:ca a 9 apply a 2 apply b 1 apply c 0 apply mul bind:c bind:b bind:a", 16);
+        numberIs("a b sub function:cb function:ca a 9 apply a 2 apply b 1 apply c 0 apply mul bind:c bind:b bind:a",
+            16);
         // What a call means by its names is gone after it.
         runIs("a function:ba 3 apply a add", STUCK, 0, 1, 1);
         // The argument is worked out outside of the closure.
