@@ -148,6 +148,17 @@ abstract class Checks {
         due("free " + when, x.free(), twin.free());
     }
 
+    /** Asks all that should change nothing. */
+    static void askAll(ClosureCompiler x) {
+        x.depth();
+        x.made();
+        x.run();
+        x.value();
+        x.calls();
+        x.closures();
+        x.free();
+    }
+
     /** On an object that holds so many, with so many made, the call answers the code and changes nothing. */
     static void refused(String what, Call call, int held, int made, int code) {
         String where = what + " with " + held + " held and " + made + " made";

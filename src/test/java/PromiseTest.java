@@ -423,13 +423,7 @@ public final class PromiseTest extends Checks {
             x.function(4, 0);
             x.function(0, 4);
             due("made after refused calls", x.made(), 1);
-            x.depth();
-            x.made();
-            x.run();
-            x.value();
-            x.calls();
-            x.closures();
-            x.free();
+            askAll(x);
             due("made after questions", x.made(), 1);
         });
         test("10: none at first, 24 at most", () -> {

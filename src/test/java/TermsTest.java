@@ -46,14 +46,27 @@ public final class TermsTest extends Checks {
                 due("run in round " + round, x.run(), NONE);
             }
         });
-        test("an object is used for at most 512 calls: the last may be a tired run", () -> {
-            ClosureCompiler x = with("1 " + FOREVER);
-            // push asks for the depth after each of its ten words, so 20 calls are gone.
-            for (int i = 20; i < 511; i++) {
-                due("calls as call " + (i + 1), x.calls(), 60);
-            }
-            due("run as call 512", x.run(), TIRED);
+        test("an object is used for at most 512 calls: the same question each time", () -> {
+            asksUpTo512("run", x -> x.run(), TIRED);
+            asksUpTo512("value", x -> x.value(), 0);
+            asksUpTo512("calls", x -> x.calls(), 60);
+            asksUpTo512("closures", x -> x.closures(), 2);
+            asksUpTo512("free", x -> x.free(), 0);
+            asksUpTo512("depth", x -> x.depth(), 2);
+            asksUpTo512("made", x -> x.made(), 10);
         });
+        test("an object is used for at most 512 calls: the same refusal each time", () -> {
+            asksUpTo512("number(10)", x -> x.number(10), BAD_ARG);
+            asksUpTo512("choose()", x -> x.choose(), TOO_FEW);
+        });
+    }
+
+    private static void asksUpTo512(String what, Call call, int answer) {
+        ClosureCompiler x = with("1 " + FOREVER);
+        // push asks for the depth after each of its ten words, so 20 calls are gone.
+        for (int i = 21; i <= 512; i++) {
+            due(what + " as call " + i, call.on(x), answer);
+        }
     }
 
     private static void ranges() {
@@ -513,16 +526,6 @@ public final class TermsTest extends Checks {
             askAll(x);
             same("after questions", x, with(words));
         });
-    }
-
-    private static void askAll(ClosureCompiler x) {
-        x.depth();
-        x.made();
-        x.run();
-        x.value();
-        x.calls();
-        x.closures();
-        x.free();
     }
 
     private static void constants() {
